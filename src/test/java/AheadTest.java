@@ -6,6 +6,8 @@ final class AheadTest {
 
     public static void main(String[] args) {
         waterAndWaitingAfter();
+        readingsAhead();
+        notTaught();
         nothingIsChanged();
         daysUntil();
         daysUntilTheLastDay();
@@ -43,6 +45,36 @@ final class AheadTest {
             CHECK.same("31: waterAfter(" + days + ")", water, y.waterToldBy(1));
             CHECK.same("32: waitingAfter(" + days + ")", waiting, y.waitingBranches());
         }
+    }
+
+    private static void readingsAhead() {
+        TerraceRain x = Check.taught("terraces 3; level highest from 0 to 0; rain lowest from 1 to 1 when pushes > 2;"
+                + "rain day from 2 to 2; rain waiting from 2 to 2; rain 1000 * height(1) from 2 to 2 when water < 9;");
+        x.bringTo(1, 1, 5);
+        x.bringTo(2, 2, -3);
+        x.bringTo(0, 1, 6);
+        x.rain(0, 1, 1);
+        // 7 7 -3; the first order opens 2, so that there is one push; -3 + 0 + 0 is left for terrace 2
+        CHECK.same("31: 7 7 -3", x.waterAfter(1), 11);
+        CHECK.same("31: a day later", x.waterAfter(2), 12);
+        x.rain(2, 2, -6);
+        CHECK.same("31: 7 7 990", x.waterAfter(1), 1004);
+        CHECK.same("33: 990 is reached", x.daysUntil(2, 990), 1);
+        CHECK.same("33: 991 is reached", x.daysUntil(2, 991), 2);
+    }
+
+    private static void notTaught() {
+        TerraceRain x = new TerraceRain();
+        x.rain(3, 15, 2);
+        CHECK.same("31: without orders", x.waterAfter(4), 26);
+        CHECK.same("32: without orders", x.waitingAfter(4), 2);
+        CHECK.same("33: without orders", x.daysUntil(3, 2), 0);
+        CHECK.same("33: without orders never", x.daysUntil(2, 1), -1);
+        CHECK.same("34: without orders", x.bestShower(3, 5), 0);
+        CHECK.same("22: without orders", x.pushesToLook(4, 4), 2);
+        CHECK.same("35: without orders", x.meanHeight(), 1.625);
+        x.bringTo(5, 6, -1);
+        CHECK.same("34: of sixteen", x.bestShower(2, 5), 5);
     }
 
     private static void nothingIsChanged() {

@@ -41,9 +41,20 @@ final class LookTest {
         CHECK.same("24: lookForHighest(1, 1)", x.lookForHighest(1, 1), -19);
         CHECK.same("24: opens 4", x.pushes(), before + 5);
         CHECK.same("23: lookForWater(1, 4)", x.lookForWater(1, 4), 5);
+        CHECK.same("24: lookForHighest(1, 4)", x.lookForHighest(1, 4), 18);
+        CHECK.same("24: lookForHighest(4, 5)", x.lookForHighest(4, 5), 18);
+        CHECK.same("25: lookForLowest(1, 4)", x.lookForLowest(1, 4), -19);
         CHECK.same("24: lookForHighest(5, 5)", x.lookForHighest(5, 5), 11);
         CHECK.same("25: lookForLowest(4, 5)", x.lookForLowest(4, 5), 11);
         CHECK.same("23: all is opened", x.waitingBranches(), 0);
+        TerraceRain z = Check.taught("terraces 4;");
+        z.rain(0, 0, 5);
+        z.rain(1, 1, 1);
+        z.rain(2, 2, 3);
+        CHECK.same("24: the greatest of 5 1 3", z.lookForHighest(0, 2), 5);
+        CHECK.same("25: the least of 5 1 3", z.lookForLowest(0, 2), 1);
+        CHECK.same("24: the greatest of 1 3 0", z.lookForHighest(1, 3), 3);
+        CHECK.same("25: the least of 1 3 0", z.lookForLowest(1, 3), 0);
         TerraceRain y = Check.taught("terraces 32;");
         y.bringTo(0, 31, 999);
         for (int i = 0; i < 20; i++) {

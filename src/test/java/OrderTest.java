@@ -55,7 +55,9 @@ final class OrderTest {
         sum("-1 + 2", 1);
         sum("min(3, 5)", 3);
         sum("min(5, -3)", -3);
+        sum("min(-3, 5)", -3);
         sum("max(3, 5)", 5);
+        sum("max(5, 3)", 5);
         sum("max(-5, -3)", -3);
         sum("min(1 + 2, max(7, 8)) * 2", 6);
     }

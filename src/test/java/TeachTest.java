@@ -11,6 +11,7 @@ final class TeachTest {
         wrongTests();
         depth();
         tokenLimit();
+        cutShort();
         lateErrors();
         orderOfErrors();
         beginsAnew();
@@ -75,6 +76,15 @@ final class TeachTest {
         error("rain 5 from 0 to abcdefghij;", 1, 17);
         error("rain x from 0 to 1;", 1, 5);
         error("rain days from 0 to 1;", 1, 5);
+        error("rainz from 0 to 1;", 1, 0);
+        error("rain dayz from 0 to 1;", 1, 5);
+        error("rain daya from 0 to 1;", 1, 5);
+        error("rain day0 from 0 to 1;", 1, 5);
+        error("rain day9 from 0 to 1;", 1, 5);
+        error("rain 1{ from 0 to 1;", 1, 6);
+        error("rain 1` from 0 to 1;", 1, 6);
+        error("rain 1: from 0 to 1;", 1, 6);
+        error("rain 1. from 0 to 1;", 1, 6);
         error("rain da from 0 to 1;", 1, 5);
         error("terracess 5;", 1, 0);
         error("look from 0 to 1; name", 1, 18);
@@ -123,6 +133,9 @@ final class TeachTest {
         error("rain max(3,4,5) from 0 to 1;", 1, 12);
         error("rain max 3,4 from 0 to 1;", 1, 9);
         error("rain min(3,) from 0 to 1;", 1, 11);
+        error("rain max(3 from 0 to 1;", 1, 11);
+        error("rain max(3,4 from 0 to 1;", 1, 13);
+        error("rain height(3 from 0 to 1;", 1, 14);
         error("rain 1 < 2 from 0 to 1;", 1, 7);
         error("rain not 1 from 0 to 1;", 1, 5);
         error("rain rain from 0 to 1;", 1, 5);
@@ -192,6 +205,23 @@ final class TeachTest {
         error(looks + "look from 0", 1, looks.length() + 11);
     }
 
+    /** Behind each token of a line but its last one, neither the end nor another line can stand. */
+    private static void cutShort() {
+        String[] tokens = ("rain min ( height ( - 1 ) , ( day + 2 ) * water ) - pushes / 3 from 0 to max ( 1 , waiting ) "
+                + "when not [ 1 < highest and lowest >= 2 or 3 = 4 ] and 5 <= 6 or 7 > 8 ;").split(" ");
+        StringBuilder text = new StringBuilder();
+        for (String token : tokens) {
+            if (text.length() > 0) {
+                error(text + " ", 1, text.length() + 1);
+                error(text + "\nlook from 0 to 1;", 1, text.length() + 1);
+                error(text + " terraces 5;", 1, text.length() + 1);
+            }
+            text.append(text.length() > 0 ? " " : "").append(token);
+        }
+        good(text.toString(), 16, 1);
+        good(text + " look from 0 to 1;", 16, 2);
+    }
+
     private static void lateErrors() {
         error("terraces 0;", 5, 9);
         error("terraces 1;", 5, 9);
@@ -225,6 +255,10 @@ final class TeachTest {
         CHECK.same("4: heights behind it", x.lookForHighest(0, 15), 0);
         Check.teach(x, "terraces 9; rain 1 from day to day;");
         x.rain(0, 4, 7);
+        x.bringTo(0, 3, 5);
+        x.bringTo(0, 2, 4);
+        x.bringTo(5, 8, 3);
+        x.rain(5, 8, 2);
         Check.teach(x, "terraces 9; rain 1 from day to day;");
         TerraceRain y = Check.taught("terraces 9; rain 1 from day to day;");
         CHECK.same("4: digest of the same valley again", x.digest(), y.digest());
@@ -232,6 +266,17 @@ final class TeachTest {
         y.passDays(4);
         CHECK.same("4: digest 4 days later", x.digest(), y.digest());
         CHECK.same("4: waterAfter of the same", x.waterAfter(3), y.waterAfter(3));
+        Check.teach(x, "terraces 32; rain 1 from 0 to 30;");
+        x.passDays(3);
+        x.waterAfter(3);
+        Check.teach(x, "terraces 3; rain 2 from 1 to 2;");
+        TerraceRain z = Check.taught("terraces 3; rain 2 from 1 to 2;");
+        CHECK.same("4: digest of fewer terraces", x.digest(), z.digest());
+        CHECK.same("4: waterAfter of fewer terraces", x.waterAfter(2), 8);
+        CHECK.same("4: openAll of fewer terraces", x.openAll(), 0);
+        x.passDays(2);
+        z.passDays(2);
+        CHECK.same("4: digest of fewer terraces 2 days later", x.digest(), z.digest());
     }
 
     private static void staysWithAnError() {
