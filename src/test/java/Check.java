@@ -5,6 +5,16 @@ final class Check {
         Object answer();
     }
 
+    /** A call on an object that is handed to it. */
+    interface CallOn {
+        Object answer(TerraceRain x);
+    }
+
+    /** Makes an object, each time by the same calls. */
+    interface Start {
+        TerraceRain made();
+    }
+
     private int looked = 0;
     private int wrong = 0;
 
@@ -36,6 +46,73 @@ final class Check {
         }
         same(what + ": digest() behind it", x.digest(), before);
         same(what + ": errorAt() behind it", x.errorAt(), errorBefore);
+    }
+
+    /** Refused, and the object goes on like a twin that was never asked. */
+    void refusesAndGoesOn(String what, Start start, Class<? extends RuntimeException> due, CallOn call) {
+        TerraceRain x = start.made();
+        refuses(what, x, due, () -> call.answer(x));
+        goesOnAlike(what, x, start.made());
+    }
+
+    /** Answered, and the object goes on like a twin that was never asked. */
+    void answersAndGoesOn(String what, Start start, Object due, CallOn call) {
+        TerraceRain x = start.made();
+        same(what, call.answer(x), due);
+        goesOnAlike(what, x, start.made());
+    }
+
+    /** Both stand alike, and bring the same with their orders, and with their tapes. */
+    void goesOnAlike(String what, TerraceRain x, TerraceRain twin) {
+        String behind = what + ", and behind it ";
+        same(behind + "errorAt()", x.errorAt(), twin.errorAt());
+        same(behind + "digest()", x.digest(), twin.digest());
+        same(behind + "waterAfter(5)", x.waterAfter(5), twin.waterAfter(5));
+        same(behind + "passDays(3)", x.passDays(3), twin.passDays(3));
+        same(behind + "digest() 3 days later", x.digest(), twin.digest());
+        same(behind + "teach()", x.teach(), twin.teach());
+        same(behind + "errorAt() taught", x.errorAt(), twin.errorAt());
+        same(behind + "passDays(2) taught", x.passDays(2), twin.passDays(2));
+        same(behind + "digest() taught", x.digest(), twin.digest());
+    }
+
+    /** What teach() and errorAt() answer to a text with an error. */
+    void errs(String text, int due, int place) {
+        TerraceRain x = new TerraceRain();
+        same("4: teach of " + text, teach(x, text), due);
+        same("5: errorAt of " + text, x.errorAt(), place);
+    }
+
+    /** What they answer to a text without one, and what stands then. */
+    void teaches(String text, int terraces, int orders) {
+        TerraceRain x = new TerraceRain();
+        same("4: teach of " + text, teach(x, text), 0);
+        same("5: errorAt of " + text, x.errorAt(), -1);
+        same("4: terraces of " + text, x.terraces(), terraces);
+        same("4: orders of " + text, x.orders(), orders);
+    }
+
+    /** A sum tells so much; it is held at -999 and 999. */
+    void tells(String sum, int due) {
+        TerraceRain x = taught("terraces 2; level " + sum + " from 0 to 0;");
+        x.passDays(1);
+        same("30: " + sum, x.heightOf(0), due);
+    }
+
+    /** A test holds, or does not. */
+    void holds(String test, boolean due) {
+        TerraceRain x = taught("terraces 2; rain 1 from 0 to 0 when " + test + ";");
+        x.passDays(1);
+        same("30: " + test, x.heightOf(0), due ? 1 : 0);
+    }
+
+    /** The heights of all terraces, without opening. */
+    static String heights(TerraceRain x) {
+        StringBuilder all = new StringBuilder();
+        for (int terrace = 0; terrace < x.terraces(); terrace++) {
+            all.append(terrace > 0 ? " " : "").append(x.heightOf(terrace));
+        }
+        return all.toString();
     }
 
     void end() {

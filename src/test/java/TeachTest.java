@@ -20,17 +20,11 @@ final class TeachTest {
     }
 
     private static void error(String text, int due, int place) {
-        TerraceRain x = new TerraceRain();
-        CHECK.same("4: teach of " + text, Check.teach(x, text), due);
-        CHECK.same("5: errorAt of " + text, x.errorAt(), place);
+        CHECK.errs(text, due, place);
     }
 
     private static void good(String text, int terraces, int orders) {
-        TerraceRain x = new TerraceRain();
-        CHECK.same("4: teach of " + text, Check.teach(x, text), 0);
-        CHECK.same("5: errorAt of " + text, x.errorAt(), -1);
-        CHECK.same("4: terraces of " + text, x.terraces(), terraces);
-        CHECK.same("4: orders of " + text, x.orders(), orders);
+        CHECK.teaches(text, terraces, orders);
     }
 
     private static void valleys() {
