@@ -18,6 +18,7 @@ final class DayEdgeTest {
         dayBeforeItIsOver();
         readingsOfANewValley();
         nothingIsOpenedForReadings();
+        readingsAhead();
         waterWrapsAroundAtTheTop();
         waterWrapsAroundAtTheBottom();
         waterComesBackToZero();
@@ -180,6 +181,27 @@ final class DayEdgeTest {
         CHECK.same("30: a test opens nothing", y.passDays(30), 0);
     }
 
+    /** What sums read stands ahead as it does now: each of them alone tells what rains. */
+    private static void readingsAhead() {
+        String[][] due = {{"day", "2"}, {"pushes", "5"}, {"water", "31"}, {"highest", "15"}, {"lowest", "3"},
+            {"waiting", "1"}, {"height(0)", "15"}, {"height(1)", "10"}, {"height(3)", "3"}};
+        for (String[] d : due) {
+            TerraceRain x = Check.taught("terraces 4; rain " + d[0] + " from 1 to 1; rain 0 from 0 to 0;");
+            x.passDays(2);
+            x.bringTo(0, 3, 0);
+            x.openAll();
+            x.rain(0, 3, 10);
+            x.rain(0, 0, 5);
+            x.rain(2, 3, -7);
+            long water = x.waterToldBy(1);
+            int rain = Integer.parseInt(d[1]);
+            CHECK.same("31: rain " + d[0], x.waterAfter(1) - water, rain);
+            CHECK.same("33: rain " + d[0], x.daysUntil(1, 10 + rain), rain == 0 ? 0 : 1);
+            x.passDays(1);
+            CHECK.same("30: rain " + d[0], x.heightOf(1), 10 + rain);
+        }
+    }
+
     /** Fifteen orders with so much rain on all terraces for so many days, and one that tells the sign of water. */
     private static TerraceRain flooded(int rain, int days) {
         TerraceRain x = Check.taught("terraces 32;"
@@ -330,6 +352,7 @@ final class DayEdgeTest {
         CHECK.same("34: two as low, both held", standing(5, 5, 1, 5, 1).bestShower(3, 9), 2);
         CHECK.same("34: one low, two ways", standing(5, 5, 1, 5, 5).bestShower(2, 9), 1);
         CHECK.same("34: a second lowest", standing(5, 2, 1, 2, 5).bestShower(2, 9), 1);
+        CHECK.same("34: under the last of the first", standing(5, 1, 5, 5).bestShower(2, 9), 0);
         CHECK.same("34: less is better in no place", standing(5, 2, 1, 5, 5).bestShower(1, 9), 2);
     }
 

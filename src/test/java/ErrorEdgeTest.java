@@ -11,6 +11,8 @@ final class ErrorEdgeTest {
         sumsOfDepthEight();
         testsOfDepthEight();
         allKindsOfDepthTogether();
+        depthOfEachSumOfALine();
+        mostValuesAtOnce();
         depthEndsBehindABracket();
         depthEndsBehindWhatIsTurned();
         depthOfBothSumsOfMin();
@@ -85,6 +87,36 @@ final class ErrorEdgeTest {
         }
         CHECK.teaches("rain height(-min(max((1),-(-(2))),3))" + TAIL, 16, 1);
         CHECK.errs(WHEN + "not[not[height(min(1,max(1,-(-1))))<2]];", 1, 22 + 28);
+    }
+
+    private static void depthOfEachSumOfALine() {
+        String eight = nested("(", 8, "1", ")");
+        String nine = nested("(", 9, "1", ")");
+        CHECK.teaches("rain " + eight + TAIL, 16, 1);
+        CHECK.teaches("level " + eight + TAIL, 16, 1);
+        CHECK.teaches("look from " + eight + " to 1;", 16, 1);
+        CHECK.teaches("look from 0 to " + eight + ";", 16, 1);
+        CHECK.teaches(WHEN + eight + " < 2;", 16, 1);
+        CHECK.teaches(WHEN + "2 < " + eight + ";", 16, 1);
+        CHECK.errs("rain " + nine + TAIL, 1, 5 + 8);
+        CHECK.errs("level " + nine + TAIL, 1, 6 + 8);
+        CHECK.errs("look from " + nine + " to 1;", 1, 10 + 8);
+        CHECK.errs("look from 0 to " + nine + ";", 1, 15 + 8);
+        CHECK.errs(WHEN + nine + " < 2;", 1, 22 + 8);
+        CHECK.errs(WHEN + "2 < " + nine + ";", 1, 26 + 8);
+    }
+
+    /** As many unfinished sums and tests as eight levels can hold, and all of them tell. */
+    private static void mostValuesAtOnce() {
+        String sum = nested("1 + 2 * min(99999, ", 8, "1 + 2 * 3", ")");
+        CHECK.tells(sum + " - 1900", 147);
+        TerraceRain x = Check.taught("terraces 9; rain " + sum + " - 2040 from " + sum + " - 2046 to " + sum
+                + " - 2044 when 1 = 2 or 1 = 1 and 0 + 2 * 1000 < " + sum + ";");
+        x.passDays(1);
+        CHECK.same("30: most values at once", Check.heights(x), "0 7 7 7 0 0 0 0 0");
+        String test = nested("1 = 2 or 1 = 1 and [", 8, "1 = 2 or 1 = 1 and 1 + 2 * 3 = 7", "]");
+        CHECK.holds(test, true);
+        CHECK.holds(test.replace("= 7", "= 8"), false);
     }
 
     private static void depthEndsBehindABracket() {

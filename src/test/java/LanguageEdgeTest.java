@@ -38,6 +38,7 @@ final class LanguageEdgeTest {
         numbersOfSixDigits();
         keywordsInTheirPlaces();
         namesHaveNoPlace();
+        keywordsByEachLetter();
         repeatedNoneOnceAndOften();
         chainsGoFromLeftToRight();
         CHECK.end();
@@ -388,6 +389,22 @@ final class LanguageEdgeTest {
             String shorter = word.substring(0, word.length() - 1);
             CHECK.errs("rain " + shorter + TAIL, 1, 5);
             CHECK.errs("rain " + word.toUpperCase() + TAIL, 1, 5);
+        }
+    }
+
+    /** A word is a keyword only if each of its letters is the right one. */
+    private static void keywordsByEachLetter() {
+        for (String word : KEYWORDS) {
+            for (int at = 0; at < word.length(); at++) {
+                String other = word.substring(0, at) + "z" + word.substring(at + 1);
+                CHECK.errs(other + " 5;", 1, 0);
+                CHECK.errs("rain " + other + TAIL, 1, 5);
+                CHECK.errs(WHEN + other + " 1 < 2;", 1, 22);
+                CHECK.errs("look " + other + " 0 to 1;", 1, 5);
+                CHECK.errs("look from 0 " + other + " 1;", 1, 12);
+                CHECK.errs("look from 0 to 1 " + other + " 1 < 2;", 1, 17);
+                CHECK.errs(WHEN + "1 < 2 " + other + " 1 < 2;", 1, 28);
+            }
         }
     }
 

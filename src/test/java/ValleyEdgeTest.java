@@ -30,6 +30,7 @@ final class ValleyEdgeTest {
         tellingAnew();
         notToldAnew();
         lookingAtTheEnds();
+        lookingOverSeveral();
         firstAtLeastSoHigh();
         firstGoesLeftAtTheVeryHeight();
         noneSoHighOpensNothing();
@@ -388,6 +389,28 @@ final class ValleyEdgeTest {
         CHECK.same("24: the last one", x.lookForHighest(6, 6), -8);
         CHECK.same("25: the first one", x.lookForLowest(0, 0), 3);
         CHECK.same("24: less than 0 without another", x.lookForHighest(6, 6), -8);
+    }
+
+    /** Of 1 to 6 of eight, four branches are reached; wherever the greatest and the least height stand. */
+    private static void lookingOverSeveral() {
+        for (int high = 1; high <= 6; high++) {
+            for (int low = 1; low <= 6; low++) {
+                if (high != low) {
+                    TerraceRain x = valley(8);
+                    x.bringTo(0, 7, -5);
+                    x.rain(high, high, 3);
+                    x.rain(low, low, -4);
+                    x.bringTo(0, 0, 99);
+                    x.bringTo(7, 7, -99);
+                    String of = " with " + high + " high and " + low + " low";
+                    CHECK.same("23: water" + of, x.lookForWater(1, 6), -31);
+                    CHECK.same("24: highest" + of, x.lookForHighest(1, 6), -2);
+                    CHECK.same("25: lowest" + of, x.lookForLowest(1, 6), -9);
+                    CHECK.same("24: lowest of one" + of, x.lookForLowest(high, high), -2);
+                    CHECK.same("25: highest of one" + of, x.lookForHighest(low, low), -9);
+                }
+            }
+        }
     }
 
     private static void firstAtLeastSoHigh() {
