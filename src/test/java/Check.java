@@ -122,22 +122,20 @@ final class Check {
         }
     }
 
-    /** Appends a text to the tape; its signs are 0 to 255. Answers the length of the tape before. */
-    static int feed(TerraceRain x, String text) {
-        int length = -1;
+    /** Appends a text to the tape, as README.md shows it; its signs are 0 to 255. */
+    static void feed(TerraceRain valley, String text) {
+        int length = 0;
         for (int from = 0; from < text.length(); from += 20) {
             int[] five = new int[5];
             for (int i = 0; i < 20; i++) {
                 int sign = from + i < text.length() ? text.charAt(from + i) : ' ';
                 five[i / 4] = five[i / 4] << 8 | sign;
             }
-            length = x.feed(five[0], five[1], five[2], five[3], five[4]);
+            length = valley.feed(five[0], five[1], five[2], five[3], five[4]);
         }
-        int padding = (20 - text.length() % 20) % 20;
-        if (padding > 0) {
-            x.trim(length - padding);
+        if (text.length() % 20 != 0) {
+            valley.trim(length - 20 + text.length() % 20);
         }
-        return length - padding - text.length();
     }
 
     static int teach(TerraceRain x, String text) {
